@@ -103,6 +103,11 @@ public final class ActTest {
         CHECK.due("b", tree.relation(1, 1), 5);
         CHECK.due("c is (b and b) then a", tree.relation(2, 1), 1);
         CHECK.due("d", tree.relation(3, 1), 11);
+        PairTree turned = CHECK.good("levels 2;rel a has 0 1 3 2;rel b is back a;rel c is back back a;", 3);
+        CHECK.due("back 1 0", turned.has(1, 1, 0), 1);
+        CHECK.due("back 2 3", turned.has(1, 2, 3), 1);
+        CHECK.due("back 0 1", turned.has(1, 0, 1), 0);
+        CHECK.due("back back", turned.unlike(0, 2), 0);
         tree.put(0, 1, 1);
         CHECK.due("b: (a or same) less back a", tree.has(1, 1, 1), 0);
         CHECK.due("b", tree.relation(1, 1), 4);
@@ -128,6 +133,9 @@ public final class ActTest {
         CHECK.due("acts", tree.about(6), 1);
         CHECK.due("undo", tree.undo(), true);
         CHECK.due("back again", tree.has(0, 3, 3), 1);
+        tree = CHECK.good("rel a has 0 0 0 7 7 0 7 7;keep 0;", 1);
+        CHECK.due("all are gone", tree.sift(0), 4);
+        CHECK.due("none is left", tree.relation(0, 1), 0);
         tree = CHECK.good("rel a has 0 0 1 1;", 1);
         CHECK.due("without keep", tree.sift(0), 0);
         CHECK.due("an ACT all the same", tree.about(6), 1);
@@ -139,7 +147,7 @@ public final class ActTest {
             "0 or row", "2 and 3", "row*column=6", "7/2=3", "7%4=3", "1/0=0", "1%0=0", "(0-7)/2=0-3", "(0-7)%2=0-1",
             "2+3*4=14", "(2+3)*4=20", "9-3-2=4", "24/4/2=3", "8/4*2=4", "1 or 0 and 0", "not 0 and 1", "not(1 and 0)",
             "not 5=0", "(not 5)=0", "9999*9999*9999<0", "8%5%2", "(1<2)+(3>2)=2", "not not 7=7", "(not not 7)=1",
-            "(7 and 9)=1", "(7 or 0)=1", "0-1", "(0-9999)*9999*9999*9999/(0-1)=9999*9999*9999*9999"};
+            "(7 and 9)=1", "(3=3)=1", "(3>2)=1", "(2<3)=1", "(7 or 0)=1", "0-1", "(0-9999)*9999*9999*9999/(0-1)=9999*9999*9999*9999"};
         String[] taken = {"0", "row-2", "row=column", "many>1", "not 1", "not row", "1 and 0", "0 or 0", "2*0", "7/8",
             "0/0", "1%0", "1=2", "(1<2)-1", "not 0 and 0", "1<0+0", "0 and 1 or 0"};
         for (String formula : kept) {
@@ -182,6 +190,9 @@ public final class ActTest {
         tree = CHECK.good("levels 2;rel a has 0 3;drift 71;", 1);
         CHECK.due("71 is not less than 71", tree.drift(), -1);
         CHECK.due("the SEED goes on", tree.about(5), 71);
+        tree = CHECK.good("rel a has;drift 95;draw 71;", 1);
+        CHECK.due("798: 98 is not less than 95", tree.drift(), -1);
+        CHECK.due("the SEED goes on", tree.about(5), 798);
         tree = CHECK.good("drift 100;", 0);
         CHECK.due("without RELATIONS", tree.drift(), -1);
         CHECK.due("the SEED goes on", tree.about(5), 71);

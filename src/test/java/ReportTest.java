@@ -65,6 +65,7 @@ public final class ReportTest {
         CHECK.due("what 2", tree.pair(0, 0, 2), -1);
         CHECK.due("what -1", tree.pair(0, 0, -1), -1);
         CHECK.due("rel 1", tree.pair(1, 0, 0), -1);
+        CHECK.due("rel 5", tree.pair(5, 0, 0), -1);
         CHECK.due("pair max", tree.pair(0, Integer.MAX_VALUE, 0), -1);
     }
 
@@ -125,6 +126,7 @@ public final class ReportTest {
         CHECK.due("far 14 0", tree.far(0, 14, 0), -1);
         CHECK.due("far 0 16", tree.far(0, 0, 16), -1);
         CHECK.due("far -1 0", tree.far(0, -1, 0), -1);
+        CHECK.due("far -1 15", tree.far(0, -1, 15), -1);
         CHECK.due("far of 1", tree.far(1, 0, 0), -1);
         CHECK.due("mutual 1", tree.mutual(0, 1), 7);
         CHECK.due("mutual 15", tree.mutual(0, 15), (1 << 14) + (1 << 15));
@@ -182,6 +184,12 @@ public final class ReportTest {
         CHECK.due("not passing on", tree.is(0, 2), 0);
         CHECK.due("a column with two", tree.is(1, 4), 0);
         CHECK.due("no row with two", tree.is(1, 3), 1);
+        tree = CHECK.good("levels 1;rel a has 1 1;rel b has 1 1 1 0;rel c has 0 0 1 0;rel d has 1 0;", 4);
+        CHECK.due("row 0 has not its own", tree.is(0, 0), 0);
+        CHECK.due("row 0 has none", tree.is(0, 5), 0);
+        CHECK.due("row 1 has two", tree.is(1, 3), 0);
+        CHECK.due("column 0 has two", tree.is(2, 4), 0);
+        CHECK.due("1 0 without 0 1", tree.is(3, 1), 0);
     }
 
     private static void odds() {

@@ -132,6 +132,19 @@ public final class SeenTest {
         CHECK.due("1 0 and 1 1 fit", tree.fits(0), 2);
         CHECK.due("the first that parts them", tree.ask(1, 0, 0), 2);
         CHECK.due("one is left", tree.ask(1, 1, 0), 1);
+        PairTree even = CHECK.good("levels 2;rel a has 0 0 0 1 1 0 0 2 0 3;", 1);
+        // quarter 0: three with one less, one with one more, 13 as told; quarter 1: two, two, 13; the whole: 5, 11, 1
+        CHECK.due("the first of like quarters", even.ask(1, 0, 0), 0);
+        CHECK.due("a quarter leaves", even.ask(1, 1, 0), 13);
+        CHECK.due("the whole leaves", even.ask(0, 1, 0), 11);
+        even.seen(0, 0, 4, true);
+        CHECK.due("one of those told was taken out", even.fits(0), 5);
+        CHECK.due("three and two", even.ask(1, 1, 0), 3);
+        even.seen(2, 1, 1, true);
+        CHECK.due("one of the other four", even.fits(0), 4);
+        CHECK.due("two and two", even.ask(1, 1, 0), 2);
+        CHECK.due("the first", even.ask(2, 0, 0), 0);
+        CHECK.due("three are left", even.ask(2, 1, 0), 3);
         CHECK.due("level 2", tree.ask(2, 0, 0), -1);
         CHECK.due("level -1", tree.ask(-1, 0, 0), -1);
         CHECK.due("what 2", tree.ask(0, 2, 0), -1);
