@@ -11,6 +11,7 @@ public final class StoreTest {
         namesAndPairs();
         derivedTexts();
         formulas();
+        fullest();
         firstFault();
         CHECK.close();
     }
@@ -233,6 +234,28 @@ public final class StoreTest {
         CHECK.faultDue("keep not(not(not(not(1))));", 2, 20);
         CHECK.good("keep not not not not not not not 1 and not not not not not not not 1 or(1);", 0);
         CHECK.faultDue("keep not not not not not not not (1);", 2, 33);
+    }
+
+    /** As much as the limits let in: nothing of it may be lost. */
+    private static void fullest() {
+        String back = "back back back back back a";
+        PairTree tree = CHECK.good("rel a has 0 1;rel b is " + back + Check.many(" less " + back, 28) + " or a;", 2);
+        CHECK.due("the last one counts", tree.has(1, 0, 1), 1);
+        tree = CHECK.good("rel a has 0 1;rel b is " + back + Check.many(" or " + back, 29) + ";", 2);
+        CHECK.due("an odd number of backs", tree.has(1, 1, 0), 1);
+        CHECK.due("an odd number of backs", tree.has(1, 0, 1), 0);
+        tree = CHECK.good("rel a has 0 1;rel b is " + Check.many("all less same then (", 5) + "a" + Check.many(")", 5) + ";", 2);
+        CHECK.due("five ( x ), one in the other", tree.has(1, 0, 1), 0);
+        CHECK.due("five ( x ), one in the other", tree.relation(1, 1), 63);
+        String not = "not not not not not not not ";
+        tree = CHECK.good("rel a has 0 1;keep " + not + 0 + Check.many(" and " + not + 0, 29) + ";", 1);
+        CHECK.due("units", tree.about(11), 30);
+        CHECK.due("all nots count", tree.relation(0, 4), 1);
+        tree = CHECK.good("rel a has 0 1;keep " + not + 0 + Check.many(" and " + not + 0, 28) + " and " + not + "1;", 1);
+        CHECK.due("the last not counts", tree.relation(0, 4), 0);
+        tree = CHECK.good("rel a has 0 1;keep " + Check.many("0 or 1 and 2=2+0*(", 4) + 1 + Check.many(")", 4) + ";", 1);
+        CHECK.due("units", tree.about(11), 25);
+        CHECK.due("what is open is kept", tree.relation(0, 4), 1);
     }
 
     private static void firstFault() {
