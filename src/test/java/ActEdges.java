@@ -273,9 +273,9 @@ final class ActEdges {
             tree.put(0, at / 16, at % 16);
             edges.due("kept", tree.about(6), Math.min(at + 1, 40));
         }
-        for (int times = 0; times < 40; times++) {
+        for (int at = 96; at >= 57; at--) {
             edges.due("undo", tree.undo(), true);
-            edges.due("taken back", tree.relation(0, 1), 96 - times);
+            edges.due("taken back", tree.has(0, at / 16, at % 16), 0);
         }
         edges.due("no more", tree.undo(), false);
         edges.due("57 stay", tree.relation(0, 1), 57);
@@ -285,6 +285,18 @@ final class ActEdges {
             edges.due("done again", tree.has(0, (57 + times) / 16, (57 + times) % 16), 1);
         }
         edges.due("no more", tree.redo(), false);
+        tree.undo();
+        tree.undo();
+        tree.put(0, 15, 15);
+        edges.due("in the place of two", tree.about(6), 39);
+        tree.put(0, 15, 14);
+        tree.put(0, 15, 13);
+        edges.due("40 again", tree.about(6), 40);
+        for (int times = 0; times < 40; times++) {
+            tree.undo();
+        }
+        edges.due("58 stay", tree.relation(0, 1), 58);
+        edges.due("the oldest one that stays", tree.has(0, 3, 9), 1);
     }
 
     private void relation() {

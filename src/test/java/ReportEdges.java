@@ -243,6 +243,14 @@ final class ReportEdges {
         edges.due("like ones: row", tree.busiest(2, 0), 1);
         edges.due("like ones: column", tree.busiest(2, 1), 1);
         edges.due("all", tree.busiest(3, 0), 0);
+        tree = edges.good("levels 2;rel a has 3 0 3 1 0 1 2 1;rel b has;rel c has 0 3;rel d has;", 4);
+        edges.due("of a, row", tree.busiest(0, 0), 3);
+        edges.due("of a, column", tree.busiest(0, 1), 1);
+        edges.due("of one pair, row", tree.busiest(2, 0), 0);
+        edges.due("of one pair, column", tree.busiest(2, 1), 3);
+        tree = edges.good("levels 4;rel a has 15 14 15 15 14 15;", 1);
+        edges.due("the last of 16 rows", tree.busiest(0, 0), 15);
+        edges.due("the last of 16 columns", tree.busiest(0, 1), 15);
         edges.promise(30, "NONE if one can't be, or for another what");
         edges.due("rel 4", tree.busiest(4, 0), -1);
         edges.due("what 2", tree.busiest(0, 2), -1);
@@ -263,6 +271,13 @@ final class ReportEdges {
                 edges.due("none: level " + level + " what " + what, tree.densest(1, level, what), 0);
                 edges.due("all: level " + level + " what " + what, tree.densest(2, level, what), what == 2 ? ofAll[level] : 0);
             }
+        }
+        PairTree large = edges.good("levels 4;rel a has 15 15;", 1);
+        for (int level = 0; level <= 4; level++) {
+            int first = 16 - (16 >> level);
+            edges.due("the last of 16 rows, level " + level, large.densest(0, level, 0), first);
+            edges.due("the last of 16 columns, level " + level, large.densest(0, level, 1), first);
+            edges.due("one pair, level " + level, large.densest(0, level, 2), 1);
         }
         edges.promise(31, "NONE if one can't be, or for another what");
         edges.due("level 4", tree.densest(0, 4, 0), -1);
@@ -396,6 +411,14 @@ final class ReportEdges {
         isSo(" 0 0", 5, 0);
         isSo(" 1 0 1 1", 5, 0);
         isSo(" 0 1 1 1", 5, 1);
+        // 16 rows: all, same, none, a chain to the last one, all rows to the last one
+        PairTree tree = edges.good("levels 4;rel f is all;rel s is same;rel n has;rel c has 14 15 13 14;rel l is all then (s less s or c) less c;", 5);
+        int[][] due = {{1, 1, 1, 0, 0, 1}, {1, 1, 1, 1, 1, 1}, {0, 1, 1, 1, 1, 0}, {0, 0, 0, 1, 1, 0}, {0, 0, 0, 0, 0, 1}};
+        for (int rel = 0; rel < 5; rel++) {
+            for (int what = 0; what < 6; what++) {
+                edges.due("of 16 rows, rel " + rel + " what " + what, tree.is(rel, what), due[rel][what]);
+            }
+        }
     }
 
     private void isRefused() {

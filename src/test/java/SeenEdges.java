@@ -189,6 +189,29 @@ final class SeenEdges {
         edges.due("two", tree.fits(0), 2);
         edges.due("the next place", tree.ask(2, 0, 0), 11);
         edges.due("one is left", tree.ask(2, 1, 0), 1);
+        tree = edges.good("levels 4;rel a has 15 15;", 1);
+        tree.seen(0, 0, 2, false);
+        tree.seen(4, 254, 0, true);
+        edges.due("none, or 15 15 is taken out", tree.fits(0), 2);
+        int[] last = {0, 3, 15, 63, 255};
+        for (int level = 0; level <= 4; level++) {
+            edges.due("the last BLOCK of level " + level, tree.ask(level, 0, 0), last[level]);
+            edges.due("one is left", tree.ask(level, 1, 0), 1);
+        }
+        tree = edges.good("levels 1;rel a is all;", 1);
+        edges.due("none, or one of four is taken out: the whole leaves", tree.ask(0, 1, 0), 4);
+        tree.seen(0, 0, 3, true);
+        edges.due("one of four is taken out: a place leaves", tree.ask(1, 1, 0), 3);
+        tree.seen(1, 0, 1, true);
+        tree.seen(1, 1, 1, true);
+        edges.due("one of two", tree.ask(1, 1, 0), 1);
+        edges.due("the first that parts them", tree.ask(1, 0, 0), 2);
+        tree = edges.good("levels 1;rel a has 0 0 0 1;", 1);
+        tree.seen(0, 0, 2, false);
+        edges.due("two with one more, two with one less", tree.ask(0, 1, 0), 2);
+        tree = edges.good("levels 2;rel a has 3 3;", 1);
+        tree.seen(1, 3, 2, true);
+        tree.seen(2, 10, 0, true);
         edges.terms("of like ones the first.");
         edges.due("no QUARTER parts them: the first", tree.ask(1, 0, 0), 0);
         edges.due("both are left", tree.ask(1, 1, 0), 2);

@@ -32,6 +32,7 @@ final class TextEdges {
         end();
         store();
         storeRefused();
+        storeAgain();
         fault();
     }
 
@@ -282,6 +283,12 @@ final class TextEdges {
         edges.faultDue("rel a is ((((((same))))));", 2, 15);
         edges.faultDue("rel a is back back back back back back same;", 2, 39);
         edges.faultDue("rel a is (back(back(back back same)));", 2, 25);
+        PairTree deep = edges.good("rel a is all;rel b is all;rel c is all;rel d is all;rel e is " + Check.many("same or all and (", 5)
+            + "same or all and all" + Check.many(")", 5) + ";", 5);
+        edges.due("as much stands open as can be", deep.relation(4, 1), 64);
+        deep = edges.good("rel a is all;rel b is all;rel c is all;rel d is all;rel e is " + Check.many("all less all and (", 5)
+            + "all less all and same" + Check.many(")", 5) + ";", 5);
+        edges.due("each ( x ) counts", deep.relation(4, 1), 8);
         edges.terms("a NAME in x is one of a RELATION told ahead");
         edges.good("rel a has;rel b is a;rel c is b and a;", 3);
         edges.faultDue("rel a is a;", 5, 9);
@@ -455,6 +462,15 @@ final class TextEdges {
         edges.due("draw 71", tree.about(5), 71);
         edges.due("no drift", tree.about(13), 0);
         edges.due("0 of an empty TAPE", tree.end(0), 0);
+        String[] cut = {"draw 12;", "draw 1x;", "rel abc;", "draw 1;;"};
+        int[] lengths = {6, 6, 5, 6};
+        for (int i = 0; i < cut.length; i++) {
+            Check.feedText(tree, cut[i]);
+            tree.end(lengths[i]);
+            edges.due("cut: " + cut[i], tree.store(), -1);
+            edges.due("what is behind is not looked at: " + cut[i], tree.fault(0), 2);
+            edges.due("it ends there: " + cut[i], tree.fault(1), lengths[i]);
+        }
         edges.promise(3, "NONE, doing nothing, if it has not so many, or n is below 0");
         edges.due("1 of an empty TAPE", tree.end(1), -1);
         tree.feed(1, 2, 3, 4, 5);
@@ -528,6 +544,28 @@ final class TextEdges {
         edges.due("undo stays", tree.undo() && tree.undo() && tree.undo(), true);
         edges.due("pairs as told", tree.relation(0, 1), 2);
         edges.due("the BOX stays", tree.back(0), 5);
+    }
+
+    /** Nothing of an earlier text, be it good or at FAULT, may come into a later one. */
+    private void storeAgain() {
+        String[] texts = {"levels 4;rel a has 9 9;rel b is a or same" + Check.many(" or a", 20) + ";rel c is all less b;keep row=9"
+            + Check.many(" and 1", 20) + ";drift 30;draw 8;", "levels 1;rel a has;rel b is all;keep 0+0;rel q is b" + Check.many(" or b", 27) + " ?",
+            "rel z has 1 1;rel b is z or same;", "rel c has 1 1 2 2;keep row-2;"};
+        int[] relations = {3, -1, 2, 1};
+        edges.promise(4, "is the STORE");
+        PairTree tree = new PairTree();
+        for (int times = 0; times < 5; times++) {
+            for (int i = 0; i < texts.length; i++) {
+                edges.due("store of " + texts[i], Check.storeText(tree, texts[i]), relations[i]);
+                edges.due("units", tree.about(11), new int[] {22, 22, 0, 2}[i]);
+                edges.due("pairs", tree.relation(relations[i] == 1 ? 0 : 1, 1), new int[] {16, 16, 8, 2}[i]);
+                edges.due("would stay", tree.relation(0, 4), 1);
+                edges.due("levels", tree.about(1), i < 2 ? 4 : 3);
+                edges.due("drift", tree.about(13), i < 2 ? 30 : 0);
+                edges.due("SEED", tree.about(5), i < 2 ? 8 : 0);
+                edges.due("FITS", tree.fits(0), i < 2 ? 257 : 65);
+            }
+        }
     }
 
     private void fault() {

@@ -131,7 +131,12 @@ final class TreeEdges {
         edges.due("BIT 1", tree.bit(0, 1), 0);
         edges.due("the last", tree.bit(0, 19), 0);
         edges.due("the last of all", tree.bit(2, 83), 1);
+        PairTree large = edges.good("levels 4;rel f is all;", 1);
+        edges.due("the last of 16 by 16", large.bit(0, 339), 1);
+        edges.due("its RANK", large.rank(0, 339), 340);
+        edges.due("its row", large.place(0, 339, 1), 15);
         edges.promise(15, "NONE if there is none such");
+        edges.due("behind the last of 16 by 16", large.bit(0, 340), -1);
         edges.due("behind the last", tree.bit(0, 20), -1);
         edges.due("behind the last of none", tree.bit(1, 4), -1);
         edges.due("behind the last of all", tree.bit(2, 84), -1);
