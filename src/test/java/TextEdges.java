@@ -566,6 +566,15 @@ final class TextEdges {
                 edges.due("FITS", tree.fits(0), i < 2 ? 257 : 65);
             }
         }
+        Check.storeText(tree, "rel a has 1 1;rel b is a;rel c is all;rel d is b or c;rel e is d;keep not 0;");
+        for (int times = 0; times < 2; times++) {
+            Check.storeText(tree, "rel a has 1 1;rel b has 2 2 3 3;rel c has 3 3;rel d has;rel e has 1 1;keep 1;");
+            int[] pairs = {1, 2, 1, 0, 1};
+            for (int rel = 0; rel < 5; rel++) {
+                edges.due("TOLD ones behind DERIVED ones", tree.relation(rel, 1), pairs[rel]);
+                edges.due("keep 1 behind keep not 0", tree.relation(rel, 4), pairs[rel]);
+            }
+        }
     }
 
     private void fault() {
